@@ -702,8 +702,8 @@ public final class NineHouses {
 
         private int learnBehind(Text text) {
             int set = 0;
-            // a PART again is a FAULT, so there is one more than all of them at most
-            for (int i = 0; i <= MOST_PARTS && text.isSound(); i++) {
+            // a PART again is a FAULT, so these are one more than all PARTS told ahead at most
+            for (int i = 0; i < MOST_PARTS && text.isSound(); i++) {
                 int q = text.takeNumber(0, parts - 1);
                 if (text.isSound() && has(set, q)) text.blame(4, text.start);
                 set |= 1 << q;
@@ -921,6 +921,7 @@ public final class NineHouses {
 
         /** PARTS come here the lesser first, so of like ones the lesser stays ahead. */
         private void queueUp(int p) {
+            if (count >= MOST_PARTS) return;
             int i = count;
             while (i > 0 && ready[order[i - 1]] > ready[p]) {
                 order[i] = order[i - 1];

@@ -743,6 +743,7 @@ public final class NineHousesModel {
 
         void askMany(int least, int most) {
             while (goesOn()) {
+                if (once(150)) makeParish(5, 6);
                 if (once(200)) makePlan();
                 askOne(from(least, most));
             }

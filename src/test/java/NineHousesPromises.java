@@ -193,6 +193,13 @@ public final class NineHousesPromises {
         // 1: cannot stand there
         parishDue("h", -11, 0);
         parishDue("housex 0 0 0 0 0 0;", -11, 0);
+        parishDue("housea 0 0 0 0 0 0;", -11, 0);
+        parishDue("housez 0 0 0 0 0 0;", -11, 0);
+        parishDue("house`0 0 0 0 0 0;", -11, 5);
+        parishDue("house{0 0 0 0 0 0;", -11, 5);
+        parishDue("house 0/0 0 0 0 0;", -11, 7);
+        parishDue("house 0:0 0 0 0 0;", -11, 7);
+        parishDue("house 9 9 9 9 9 9;", 1, NONE);
         parishDue("ho use 0 0 0 0 0 0;", -11, 0);
         parishDue("wake 0 1;", -11, 0);
         parishDue("on 0;", -11, 0);
@@ -549,6 +556,9 @@ public final class NineHousesPromises {
         due("kept(0, 0, -1)", x.kept(0, 0, -1), OUTSIDE);
         NineHouses none = made(HOUSE, "");
         due("no PARTS", none.kept(0, 0, 0), 0);
+        tell(x, HOUSE + "part 0 1 1;");
+        x.parish();
+        due("a lesser parish behind it", x.kept(0, 1, 0), 0);
     }
 
     private static void keptDue(NineHouses x, int first, int t, int... want) {
