@@ -68,6 +68,7 @@ final class EdgesOfFires {
         line("wake 0 1;wake 0 3;wake 0 2;").ask("away 2 = 0", "comes 0 0 1 = 64", "comes 1 0 1 = 54", "comes 3 0 1 = 54", "away 14 = 2",
             "comes 2 0 1 = 58", "comes 2 0 2 = 58", "comes 2 0 3 = 58", "comes 0 0 1 = 78", "away 4 = 14", "comes 2 0 2 = 46", "comes 0 0 2 = 66");
         line("wake 0 1;").ask("away 2 = 0", "comes 0 0 1 = 24", "comes 1 0 1 = 14");
+        line("wake 3 2;wake 3 0;").ask("away 1 = 0", "comes 0 3 0 = 32", "comes 3 3 0 = 62", "away 5 = 1", "comes 0 3 0 = 38", "comes 0 3 2 = 38");
         Due.says(Due.TERMS, "A B that is FIRST is passed: the waker comes there all the same, and goes on at once.");
         line("wake 1 0;wake 1 2;wake 0 1;").ask("awake 0 1 = 13", "awake 0 2 = 48", "awake 0 0 = 0", "comes 1 0 0 = 10",
             "away 1 = 0", "awake 0 2 = 48", "awake 0 0 = 0", "comes 1 0 0 = 10");
@@ -149,9 +150,10 @@ final class EdgesOfFires {
         chain.ask("odds 2 0 0 1 = 2", "odds 2 0 1 1 = 500", "odds 2 0 2 1 = 500", "odds 2 0 3 1 = 500");
         Asked.of(HOUSE + "house 60 0 0 100 50 1;way 0 1 5;part 1 0 0;", "wake 0 1;")
             .ask("odds 0 0 0 1 = 70", "odds 0 0 1 1 = 10", "odds 0 0 2 1 = 70", "odds 0 0 3 1 = 70");
-        // one of a hundred five times is less than one of a BILLION
-        String seldom = "house 0 60 1 0 0 0;".repeat(5) + "way 0 1 1;way 1 2 1;way 2 3 1;way 3 4 1;way 4 5 1;part 5 0 0;";
-        Asked.of(HOUSE + seldom, "wake 0 1;wake 0 2;wake 0 3;wake 0 4;wake 0 5;").ask("odds 5 0 0 1 = 245", "odds 5 0 1 1 = 5");
+        // one of a hundred five times is less than one of a BILLION; with ten of a hundred at last it is just one
+        String seldom = "house 0 60 1 1 1 1;".repeat(4) + "house 0 60 1 9 10 0;way 0 1 1;way 1 2 1;way 2 3 1;way 3 4 1;way 4 5 1;part 5 0 0;";
+        Asked.of(HOUSE + seldom, "wake 0 1;wake 0 2;wake 0 3;wake 0 4;wake 0 5;")
+            .ask("odds 5 0 0 1 = 245", "odds 5 0 1 1 = 245", "odds 5 0 2 1 = 305", "odds 5 0 3 1 = 245");
     }
 
     private static void night() {
@@ -184,6 +186,13 @@ final class EdgesOfFires {
         line("").ask("crier 0 1 NONE = 58", "crier 0 1 0 = 2", "crier 0 1 1 = 3", "crier 0 1 2 = 0",
             "away 2 = 0", "crier 0 0 NONE = 68", "crier 0 0 0 = 2", "crier 0 0 1 = 3", "crier 0 0 2 = 1", "told 4 = 2",
             "away 3 = 2", "crier 0 0 NONE = 68", "crier 0 0 0 = 2");
+        // the last round of all, 7 to 1, is the only one without a way back
+        StringBuilder back = new StringBuilder(HOUSE.repeat(8) + "way 0 7 1;part 7 0 0;");
+        for (int h = 1; h < 7; h++) back.append("way ").append(h).append(' ').append(h + 1).append(" 1;part ").append(h).append(" 0 0;");
+        Asked last = Asked.of(back.toString(), "").ask("crier 1 0 NONE = 7");
+        for (int i = 0; i < 7; i++) last.ask("crier 1 0 " + i + " = " + (7 - i));
+        // fewer HOUSES behind more
+        line("").ask("crier 0 1 NONE = 58", "keepAt 2 1 = 2", "crier 0 1 NONE = 58", "crier 0 1 0 = 3", "crier 0 1 1 = 0", "crier 0 1 2 = NONE");
         Asked.of(HOUSE.repeat(3) + "part 1 0 0;part 2 7 0;", "").ask("crier 1 0 NONE = 1007", "crier 1 0 0 = 2", "crier 2 0 NONE = 1007",
             "crier 2 0 0 = 1", "crier 2 0 1 = 2", "away 6 = 0", "crier 2 0 NONE = 1007", "crier 1 0 NONE = 1007", "crier 1 0 0 = 2");
     }

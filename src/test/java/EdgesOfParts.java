@@ -44,6 +44,15 @@ final class EdgesOfParts {
         keptDue(one, 0, 9, 1, 0, 0);
         one.ask("told 4 = 3", "part 0 0 = 1", "keepAt 0 0 = 1");
         keptDue(one, 0, 5, 0);
+        // with folk of 0 AWAY it would be 13 at a FIRE at 1
+        keptDue(Asked.of("house 0 9 0 0 0 0;" + HOUSE + "way 0 1 2;part 0 0 0;", "wake 1 0;").ask("away 1 = 0"), 1, 4, 0);
+        // kept at 0 it is late at a FIRE at 1 alone, kept at 1 at one at 0 alone
+        keptDue(Asked.of("house 6 0 0 0 0 0;" + HOUSE + HOUSE + "way 0 2 5;way 2 1 5;part 0 0 0;", "wake 2 0;wake 2 1;"), 2, 20, 1, 0, 2);
+        // fewer HOUSES behind more
+        Asked less = Asked.of(HOUSE.repeat(3) + "way 0 1 1;part 0 0 0;", "");
+        keptDue(less, 0, 1, -1);
+        less.tell(PAIR + "part 0 0 0;").ask("parish = 2");
+        keptDue(less, 0, 5, 0);
         // a HOUSE that nobody wakes: all that is kept there must be moved
         keptDue(Asked.of(PAIR + "part 1 0 0;", ""), 0, 999, 1, 0, 0);
         keptDue(Asked.of(PAIR + "part 1 0 0;part 0 0 0;part 1 0 0;", ""), 0, 999, 2, 0, 0, 2, 0);
@@ -146,6 +155,9 @@ final class EdgesOfParts {
         // with no way the spare comes at 500, so that it would stand at 501: later than 500 in place of NONE
         Asked apart = Asked.of(HOUSE + HOUSE + "part 1 1 0;", "");
         sparesDue(apart, 1, 999, 0, 500);
+        // one that never COMES is never put in, though 500 in place of NONE would be less
+        Asked slow = Asked.of(HOUSE.repeat(3) + "part 1 7 0;", "wake 0 1;").ask("store 2 = 0", "cost 0 0 = 10");
+        sparesDue(slow, 0, 999, 0, 1007);
         Due.says(Due.TERMS, "THE BEST SPARES for c coins: the SET with which STANDS (as AWAY is now) is least (500 in place of NONE); "
             + "of like ones the cheapest, then the least.");
         Asked two = Asked.of(PAIR + "part 1 9 0;part 1 9 0;", "wake 0 1;");

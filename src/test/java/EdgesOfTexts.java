@@ -244,6 +244,8 @@ final class EdgesOfTexts {
         parishFault(3, HOUSE.repeat(9) + "   ^house 61");
         parishFault(3, HOUSE.repeat(9) + "^house");
         parishFault(1, HOUSE.repeat(9) + "^houses");
+        parishFault(1, HOUSE.repeat(9) + "^horse 0 0 0 0 0 0;");
+        parishFault(1, HOUSE + PART.repeat(12) + "^port 0 0 0;");
         parishFault(3, HOUSE + PART.repeat(12) + " ^part 9");
         parishFault(3, HOUSE.repeat(9) + PART.repeat(12) + "^house");
         Due.says(Due.TERMS, "4 a way from one to itself, two again; a Q again; 'wake' of itself (at the B, the Q).");
