@@ -191,10 +191,33 @@ final class EdgesOfFires {
         for (int h = 1; h < 7; h++) back.append("way ").append(h).append(' ').append(h + 1).append(" 1;part ").append(h).append(" 0 0;");
         Asked last = Asked.of(back.toString(), "").ask("crier 1 0 NONE = 7");
         for (int i = 0; i < 7; i++) last.ask("crier 1 0 " + i + " = " + (7 - i));
-        // fewer HOUSES behind more
+        everyRound(new int[] {1, 2, 3, 4}, 0);
+        // fewer HOUSES behind more, and lesser ones
+        Asked fewer = Asked.of(HOUSE.repeat(6) + "way 0 2 1;way 2 1 1;part 3 0 0;part 4 0 0;part 5 0 0;", "");
+        fewer.ask("crier 0 0 0 = 3", "keepAt 0 1 = 3", "keepAt 1 2 = 4", "keepAt 2 2 = 5", "crier 1 0 NONE = 2", "crier 1 0 0 = 2", "crier 1 0 1 = 1",
+            "crier 1 0 2 = NONE");
         line("").ask("crier 0 1 NONE = 58", "keepAt 2 1 = 2", "crier 0 1 NONE = 58", "crier 0 1 0 = 3", "crier 0 1 1 = 0", "crier 0 1 2 = NONE");
         Asked.of(HOUSE.repeat(3) + "part 1 0 0;part 2 7 0;", "").ask("crier 1 0 NONE = 1007", "crier 1 0 0 = 2", "crier 2 0 NONE = 1007",
             "crier 2 0 0 = 1", "crier 2 0 1 = 2", "away 6 = 0", "crier 2 0 NONE = 1007", "crier 1 0 NONE = 1007", "crier 1 0 0 = 2");
+    }
+
+    /** Changes the HOUSES from one on to all orders: along a line of them, to a FIRE at its end, that order alone is the best. */
+    private static void everyRound(int[] round, int from) {
+        if (from == round.length) {
+            StringBuilder along = new StringBuilder(HOUSE.repeat(round.length + 1));
+            for (int i = 0; i < round.length; i++) {
+                along.append("way ").append(i == 0 ? 0 : round[i - 1]).append(' ').append(round[i]).append(" 1;part ").append(i + 1).append(" 0 0;");
+            }
+            int fire = round[round.length - 1];
+            Asked x = Asked.of(along.toString(), "").ask("crier " + fire + " 0 NONE = " + round.length);
+            for (int i = 0; i < round.length; i++) x.ask("crier " + fire + " 0 " + i + " = " + round[i]);
+        }
+        for (int i = from; i < round.length; i++) {
+            int[] other = round.clone();
+            other[from] = round[i];
+            other[i] = round[from];
+            everyRound(other, from + 1);
+        }
     }
 
     private static void awayAwakeComes() {

@@ -33,6 +33,7 @@ final class EdgesOfRefusals {
         }
         unknownAheadOfNot();
         outsideAheadOfFull();
+        allIsThere();
         Due.says(Due.TERMS, "What is refused changes nothing.");
         refusedChangesNothing();
         nothingIsThere();
@@ -176,6 +177,28 @@ final class EdgesOfRefusals {
         // a FAULT is no refusal, but THE PARISH and THE PLAN stay, and all with them
         alike("parish with a FAULT", seen(changed().ask("parish = -11", "fault = 5").tell("x").ask("parish = -11", "fault = 0").tell("house")),
             seen(changed().ask("plan = -11", "fault = 0").tell("house")));
+    }
+
+    /** Nine HOUSES and twelve PARTS, each call at the greatest of each: that is no refusal, and one more is. */
+    private static void allIsThere() {
+        StringBuilder nine = new StringBuilder("house 1 1 50 50 50 50;".repeat(9));
+        for (int h = 1; h < 9; h++) nine.append("way ").append(h - 1).append(' ').append(h).append(" 9;");
+        for (int p = 0; p < 12; p++) nine.append("part ").append(p < 8 ? 0 : p - 3).append(" 1 9;");
+        StringBuilder plan = new StringBuilder();
+        for (int h = 1; h < 9; h++) plan.append("wake 0 ").append(h).append(';');
+        Asked x = Asked.of(nine.toString(), plan.toString());
+        // awake: 10 and so on to 73 in 8; at a FIRE at 8 what is kept at 0 comes at 72, the others at 73
+        x.ask("house 8 6 = 2048", "house 9 6 = UNKNOWN", "far 8 0 = 72", "far 8 9 = UNKNOWN", "part 11 5 = 2048", "part 12 5 = UNKNOWN",
+            "awake 0 8 = 73", "awake 0 9 = UNKNOWN", "comes 8 0 11 = 73", "comes 8 0 12 = UNKNOWN", "stands 8 0 = 84", "stands 9 0 = UNKNOWN",
+            "put 8 0 11 = 11", "put 8 0 12 = NONE", "put 8 9 11 = UNKNOWN", "waited 8 0 = 0", "waited 8 9 = UNKNOWN", "odds 8 0 3 1 = 84",
+            "odds 8 9 3 1 = UNKNOWN", "crier 8 0 NONE = 84", "crier 8 0 3 = 8", "crier 8 0 4 = NONE", "keepAt 11 8 = 8", "keepAt 12 8 = UNKNOWN",
+            "keepAt 11 9 = UNKNOWN", "kept 0 999 0 = 0", "kept 0 83 0 = NONE", "kept 8 999 0 = NONE", "kept 9 999 0 = UNKNOWN", "reach 4095 = 108",
+            "reach 4096 = UNKNOWN", "needed 108 = 4095", "needed 109 = NONE", "fit 11 4095 = 2048", "fit 12 4095 = UNKNOWN", "fit 11 4096 = UNKNOWN",
+            "ladders 4095 12 = 1", "ladders 4096 12 = UNKNOWN", "ladders 4095 13 = OUTSIDE", "longest 4095 = 12", "longest 2047 = 11",
+            "longest 4096 = UNKNOWN", "cost 11 99 = 10", "cost 12 99 = UNKNOWN", "spares 8 0 999 1 = 84", "spares 9 0 999 1 = UNKNOWN",
+            "two 8 8 0 54 = 78", "two 8 0 0 54 = 78", "two 8 9 0 54 = UNKNOWN", "log 11 999 = 1", "log 12 999 = UNKNOWN", "late 8 0 11 = 926",
+            "late 8 0 12 = UNKNOWN", "judge 8 0 0 = 11", "judge 8 0 1 = 1000", "judge 8 9 1 = UNKNOWN", "store 8 = 0", "store 9 = UNKNOWN",
+            "away 511 = 0", "away 512 = UNKNOWN", "clear = 1");
     }
 
     /** With no HOUSES there is nothing that could be named; no call may throw for that. */

@@ -85,6 +85,9 @@ final class EdgesOfTexts {
         String full = HOUSE + " ".repeat(600 - 2 * HOUSE.length()) + HOUSE;
         parishSound(full, 2, 0);
         parishFault(1, HOUSE + " ".repeat(599 - HOUSE.length()) + "^;");
+        parishFault(1, HOUSE + " ".repeat(599 - HOUSE.length()) + "^w");
+        parishFault(1, " ".repeat(595) + "house^");
+        parishFault(1, " ".repeat(594) + "house0^");
         parishSound("", 0, 0);
         Due.says(Due.TERMS, "'house' W K O O O O ';' (9 HOUSES at most: WAKE 0 .. 60 minutes, KEY 0 .. 60 minutes, "
             + "ODDS of a hundred that its folk are away by quarters of the day, 0 .. 100 each)");
