@@ -143,6 +143,10 @@ final class EdgesOfFires {
         Due.says(Due.TERMS, "the sum of these times STANDS (500 in place of NONE), / MILLION (cut).");
         Asked chain = Asked.of(HOUSE + "house 0 0 0 100 50 1;" + HOUSE + "way 0 1 1;way 1 2 1;part 2 0 0;", "wake 0 1;wake 1 2;");
         chain.ask("odds 2 0 0 0 = 2000", "odds 2 0 1 0 = 500000", "odds 2 0 2 0 = 251000", "odds 2 0 3 0 = 6980", "odds 2 2 1 0 = 0");
+        // 5 if all five are AWAY, which is one of a BILLION, else 6: one less than 6000000000 is cut
+        String nearly = "house 1 0 1 0 0 0;".repeat(4) + "house 1 0 10 0 0 0;way 0 1 1;way 1 2 1;way 2 3 1;way 3 4 1;way 4 5 1;"
+            + "part 1 0 0;part 2 0 0;part 3 0 0;part 4 0 0;part 5 0 0;";
+        Asked.of(HOUSE + nearly, "wake 0 1;wake 0 2;wake 0 3;wake 0 4;wake 0 5;").ask("odds 5 0 0 0 = 5999", "odds 5 0 1 0 = 6000", "odds 5 0 0 1 = 6");
         Asked.of(HOUSE + HOUSE + "part 1 60 0;", "wake 0 1;").ask("odds 0 0 0 0 = 1060000", "odds 0 0 0 1 = 1060");
         Asked.of(HOUSE + HOUSE + "part 1 60 0;", "").ask("odds 0 0 0 0 = 500000", "odds 0 0 0 1 = 500");
         Asked.of(HOUSE, "").ask("odds 0 0 0 0 = 0", "odds 0 0 0 1 = 0");
