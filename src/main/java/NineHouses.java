@@ -25,6 +25,7 @@ public final class NineHouses {
     /** A second ladder beside the first: the other FIRE of two, or the one with spares. */
     private final Raising beside = new Raising();
     private final Crier crier = new Crier();
+    private final Moves moves = new Moves();
     private final int[] cost = new int[MOST_PARTS];
     private final int[] logged = new int[MOST_PARTS];
     /** In how many ways the first SLOTS, as many as a SET has PARTS, take just the PARTS of that SET. */
@@ -34,7 +35,6 @@ public final class NineHouses {
     private Parish unusedParish = new Parish();
     private Plan plan = new Plan();
     private Plan unusedPlan = new Plan();
-    private final Moves moves = new Moves(waking, raising, parish);
     private int store;
 
     public NineHouses() {
@@ -211,7 +211,7 @@ public final class NineHouses {
         if (noHouse(first)) return UNKNOWN;
         if (t < 0 || t > MOST_MINUTE || what < 0 || what > 2 * MOST_MOVED) return OUTSIDE;
         waking.run(parish, plan, first, 0);
-        moves.find(parish, now.keptAt, t);
+        moves.find(parish, waking, now.keptAt, t);
         if (what == 0) return moves.count;
         int i = (what - 1) / 2;
         if (i >= moves.count) return NONE;
@@ -409,6 +409,12 @@ public final class NineHouses {
 
     private static int counted(int minute) {
         return minute == NONE ? IN_PLACE_OF_NONE : minute;
+    }
+
+    private static void swap(int[] row, int i, int k) {
+        int old = row[i];
+        row[i] = row[k];
+        row[k] = old;
     }
 
     private void wakeAll(int first) {
@@ -996,12 +1002,6 @@ public final class NineHouses {
             for (int low = i + 1, high = end; low < high; low++, high--) swap(round, low, high);
             return true;
         }
-
-        private static void swap(int[] row, int i, int k) {
-            int old = row[i];
-            row[i] = row[k];
-            row[k] = old;
-        }
     }
 
     /** KEPT: the fewest PARTS moved so that the ladder stands in time wherever there is a FIRE. */
@@ -1011,41 +1011,38 @@ public final class NineHouses {
         final int[] part = new int[MOST_MOVED];
         final int[] to = new int[MOST_MOVED];
         private final int[] keptAt = new int[MOST_PARTS];
-        private final Waking waking;
-        private final Raising raising;
-        private Parish parish;
+        /** By FIRE, then HOUSE: when PARTS kept there come. It does not hang on which PARTS these are. */
+        private final int[][] arrivals = new int[MOST_HOUSES][MOST_HOUSES];
+        /** All FIRES, ahead the one that was too far the last time: it most likely is again. */
+        private final int[] fires = new int[MOST_HOUSES];
+        private final Raising raising = new Raising();
         private int minutes;
-        /** The FIRE that was too far the last time: it most likely is again. */
-        private int doubtful;
 
-        Moves(Waking waking, Raising raising, Parish parish) {
-            this.waking = waking;
-            this.raising = raising;
-            this.parish = parish;
-        }
-
-        /** Searches with the waking as it is, which does not hang on where PARTS are kept. */
-        void find(Parish ofParish, int[] where, int t) {
-            parish = ofParish;
+        void find(Parish parish, Waking waking, int[] where, int t) {
             minutes = t;
-            doubtful = 0;
             System.arraycopy(where, 0, keptAt, 0, MOST_PARTS);
-            if (isInTime()) {
+            for (int fire = 0; fire < parish.houses; fire++) {
+                fires[fire] = fire;
+                for (int h = 0; h < parish.houses; h++) {
+                    arrivals[fire][h] = waking.arrival(parish, h, fire);
+                }
+            }
+            if (isInTime(parish)) {
                 count = 0;
-            } else if (moveOne(0, 0)) {
+            } else if (moveOne(parish, 0, 0)) {
                 count = 1;
             } else {
-                count = moveTwo() ? 2 : NONE;
+                count = moveTwo(parish) ? 2 : NONE;
             }
         }
 
         /** Moves one PART, none ahead of the one told, and holds it as the i-th. */
-        private boolean moveOne(int i, int from) {
+        private boolean moveOne(Parish parish, int i, int from) {
             for (int p = from; p < parish.parts; p++) {
                 int home = keptAt[p];
                 for (int h = 0; h < parish.houses; h++) {
                     keptAt[p] = h;
-                    if (h != home && isInTime()) {
+                    if (h != home && isInTime(parish)) {
                         hold(i, p, h);
                         return true;
                     }
@@ -1055,12 +1052,12 @@ public final class NineHouses {
             return false;
         }
 
-        private boolean moveTwo() {
+        private boolean moveTwo(Parish parish) {
             for (int p = 0; p < parish.parts; p++) {
                 int home = keptAt[p];
                 for (int h = 0; h < parish.houses; h++) {
                     keptAt[p] = h;
-                    if (h != home && moveOne(1, p + 1)) {
+                    if (h != home && moveOne(parish, 1, p + 1)) {
                         hold(0, p, h);
                         return true;
                     }
@@ -1076,21 +1073,18 @@ public final class NineHouses {
             to[i] = h;
         }
 
-        private boolean isInTime() {
-            if (!isInTimeAt(doubtful)) return false;
-            for (int fire = 0; fire < parish.houses; fire++) {
-                if (fire != doubtful && !isInTimeAt(fire)) {
-                    doubtful = fire;
+        private boolean isInTime(Parish parish) {
+            for (int i = 0; i < parish.houses; i++) {
+                for (int p = 0; p < parish.parts; p++) {
+                    raising.coming[p] = arrivals[fires[i]][keptAt[p]];
+                }
+                int minute = raising.run(parish, parish.allParts());
+                if (minute == NONE || minute > minutes) {
+                    swap(fires, 0, i);
                     return false;
                 }
             }
             return true;
-        }
-
-        private boolean isInTimeAt(int fire) {
-            raising.gather(parish, waking, keptAt, fire);
-            int minute = raising.run(parish, parish.allParts());
-            return minute != NONE && minute <= minutes;
         }
     }
 }

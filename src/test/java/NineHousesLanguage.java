@@ -11,7 +11,7 @@ import java.util.TreeSet;
 import java.util.regex.Matcher;
 import java.util.regex.Pattern;
 
-/** The class's face is the document's and no other, and its file keeps to LANGUAGE.md as far as words can tell. */
+/** The class's face is the document's and no other, and its file keeps to LANGUAGE.md as far as its words and its tree can tell. */
 public final class NineHousesLanguage {
     private static final Path SOURCE = Path.of("src/main/java/NineHouses.java");
     private static final List<String> FACE = List.of(
@@ -25,6 +25,13 @@ public final class NineHousesLanguage {
         "throw", "throws", "try", "catch", "finally", "synchronized", "assert", "import static", "package",
         "System\\.(?!arraycopy)", "Math\\.\\w+Exact", "Arrays\\.(?!fill|copyOf)", "->", "::", "toString", "hashCode",
         "Object", "static \\{", "new \\w+\\(\\) \\{", "import (?!java\\.util\\.Arrays;)", "double", "float"};
+
+    /** What of the library the class uses; more of LANGUAGE.md's fourth rule may be put here when it does. */
+    private static final Set<String> LIBRARY = Set.of(
+        "String.length", "String.charAt", "Integer.bitCount", "Math.max", "Math.min", "System.arraycopy", "Arrays.fill");
+    private static final Set<String> TYPES = Set.of("int", "long", "char", "boolean", "int[]", "int[][]", "char[]", "String",
+        "Text", "Parish", "Plan", "Now", "Waking", "Raising", "Crier", "Moves");
+    private static final int MOST_DEEP = 8;
 
     private static int wrong = 0;
 
@@ -45,7 +52,7 @@ public final class NineHousesLanguage {
             check(!found.find(), "the file has what LANGUAGE.md rules out: " + word);
         }
         noPrivateMethodBearsAPublicName(code);
-        methodsAreShort(code);
+        treeKeepsToTheRules(new Written(SOURCE));
         System.out.println(wrong == 0 ? "the language is kept to" : wrong + " rules are not kept to");
         if (wrong != 0) System.exit(1);
     }
@@ -102,11 +109,29 @@ public final class NineHousesLanguage {
         }
     }
 
-    private static void methodsAreShort(String code) {
-        int lines = 0;
-        for (String line : code.split("\n")) {
-            lines = line.isBlank() ? 0 : lines + 1;
-            check(lines <= 60, "some sixty lines at most: " + line);
+    private static void callsAreNotDeep(Written written) {
+        for (String method : written.calls.keySet()) {
+            boolean comesBack = written.reachedFrom(method).contains(method);
+            check(!comesBack, "no method comes back to itself: " + method);
+            if (comesBack) return;
         }
+        for (String method : written.calls.keySet()) {
+            List<String> chain = written.chainFrom(method);
+            check(chain.size() <= MOST_DEEP, "calls go at most eight deep: " + chain);
+        }
+    }
+
+    private static void treeKeepsToTheRules(Written written) {
+        callsAreNotDeep(written);
+        check(LIBRARY.containsAll(written.library()), "the library is what LANGUAGE.md lists: " + written.library());
+        check(TYPES.containsAll(written.types), "the types are those of LANGUAGE.md: " + written.types);
+        check(Set.of("int", "char").containsAll(written.casts), "casts are of numbers alone: " + written.casts);
+        for (String divisor : written.divisors) {
+            check(divisor.matches("-?[1-9][0-9]*L?|Math\\.max\\(\\w+, 1\\)"), "a divisor is never 0: " + divisor);
+        }
+        check(written.handedOut.isEmpty(), "constructors hand out nothing: " + written.handedOut);
+        check(written.madeByMethods.isEmpty(), "what is made is made by constructors: " + written.madeByMethods);
+        check(written.joinedTexts.isEmpty(), "texts are not joined by +: " + written.joinedTexts);
+        check(written.longMethods.isEmpty(), "some sixty lines at most: " + written.longMethods);
     }
 }
